@@ -1,0 +1,190 @@
+/**
+ * Many small games, made by a fixed rule, in which every answer of the program is held against the
+ * oracle's. An argument tells how many games there are to be, a second one where to begin.
+ */
+public final class OracleTest {
+    private static final String AIMS = "rfsw";
+    private static long seed;
+
+    private static int below(int limit) {
+        seed = seed * 6364136223846793005L + 1442695040888963407L;
+        return (int) ((seed >>> 33) % limit);
+    }
+
+    public static void main(String[] args) {
+        int games = args.length > 0 ? Integer.parseInt(args[0]) : 250;
+        int begin = args.length > 1 ? Integer.parseInt(args[1]) : 1;
+        for (int i = begin; i < begin + games; i++) {
+            seed = i * 7919L;
+            below(2);
+            playGame("game " + i);
+        }
+        Check.end("OracleTest");
+    }
+
+    private static void playGame(String name) {
+        int n = 1 + below(7);
+        Oracle oracle = new Oracle(n);
+        Chanceledger game = new Chanceledger();
+        addStates(game, oracle, 1 + below(4));
+        addChoices(game, oracle);
+        compareAll(name, game, oracle);
+        change(game, oracle);
+        compareAll(name + " changed", game, oracle);
+    }
+
+    private static void addStates(Chanceledger game, Oracle oracle, int colours) {
+        int kind = below(5);
+        for (int s = 0; s < oracle.n; s++) {
+            oracle.player[s] = kind == 0 ? 'a' : kind == 1 ? 'b' : below(2) == 0 ? 'a' : 'b';
+            oracle.colour[s] = below(colours);
+            oracle.target[s] = below(4) == 0;
+            game.addState(oracle.player[s], oracle.colour[s]);
+            game.setTarget(s, oracle.target[s]);
+        }
+    }
+
+    /** Few costs and few next states make ties, which are where strategies are told apart. */
+    private static void addChoices(Chanceledger game, Oracle oracle) {
+        int costs = below(2) == 0 ? 2 : 10;
+        int weights = below(3) == 0 ? 1 : 1 + below(6);
+        int most = oracle.n > 5 ? 2 : 3;
+        for (int s = 0; s < oracle.n; s++) {
+            int choices = 1 + below(most);
+            for (int c = 0; c < choices; c++) {
+                int[] weight = new int[oracle.n];
+                Oracle.Choice made = new Oracle.Choice(below(costs), below(costs), weight);
+                game.addChoice(s, made.first, made.second);
+                int sum = 1 + below(weights);
+                for (int i = 0; i < sum; i++) {
+                    int to = below(oracle.n);
+                    weight[to]++;
+                    game.addWeight(s, c, to, 1);
+                }
+                oracle.choices.get(s).add(made);
+            }
+        }
+    }
+
+    private static void change(Chanceledger game, Oracle oracle) {
+        int below = 2 + below(2);
+        int above = 1 + below(below - 1);
+        oracle.discount = Fraction.of(above, below);
+        game.setDiscount(above, below);
+        oracle.firstWeight = below(4);
+        oracle.secondWeight = below(4);
+        game.setWeights(oracle.firstWeight, oracle.secondWeight);
+        int s = below(oracle.n);
+        oracle.target[s] = !oracle.target[s];
+        game.setTarget(s, oracle.target[s]);
+        for (s = 0; s < oracle.n; s++) {
+            oracle.told[s] = below(oracle.choices.get(s).size());
+            game.tell(s, oracle.told[s]);
+        }
+    }
+
+    private static void compareAll(String name, Chanceledger game, Oracle oracle) {
+        compareTold(name, game, oracle);
+        for (int i = 0; i < AIMS.length(); i++) {
+            char aim = AIMS.charAt(i);
+            Fraction[] values = oracle.values(aim);
+            compareValues(name + " " + aim, game, oracle, aim, values);
+            solve(name + " solve " + aim, game, oracle, aim, values);
+            compareTold(name + " solved " + aim, game, oracle);
+        }
+        compareSets(name, game, oracle);
+        Check.due(name + " isConsistent", game.isConsistent(), true);
+    }
+
+    private static void compareValues(String name, Chanceledger game, Oracle oracle, char aim, Fraction[] values) {
+        for (int s = 0; s < oracle.n; s++) {
+            String at = name + " state " + s;
+            Fraction value = values[s];
+            long above = value.up.longValueExact();
+            long below = value.down.longValueExact();
+            Check.due(at + " value", Games.value(game, aim, s), value.toString());
+            Check.due(at + " by all", Games.byAll(game, aim, s), value.toString());
+            float asFloat = (float) above / (float) below;
+            Check.due(at + " float", game.valueFloat(aim, s), asFloat);
+            Check.due(at + " rest", game.restFloat(aim, s), asFloat % 0.75f);
+            Check.due(at + " rounded", game.rounded(aim, s), (long) Math.rint((double) above / (double) below));
+            if (aim == 'r') {
+                Check.due(at + " isZero", game.isZero(s), value.isZero());
+                Check.due(at + " isOne", game.isOne(s), value.equals(Fraction.ONE));
+                int rounds = below(61);
+                Check.due(at + " bound " + rounds, game.bound(s, rounds), oracle.bound(s, rounds));
+            }
+        }
+    }
+
+    private static void solve(String name, Chanceledger game, Oracle oracle, char aim, Fraction[] values) {
+        int[] solved = oracle.solved(aim, values);
+        int others = 0;
+        for (int s = 0; s < oracle.n; s++) {
+            others += solved[s] != oracle.told[s] ? 1 : 0;
+            oracle.told[s] = solved[s];
+        }
+        Check.due(name, game.solve(aim), others);
+        for (int s = 0; s < oracle.n; s++) {
+            Check.due(name + " told " + s, game.told(s), solved[s]);
+            Check.due(name + " chain " + s, Games.chain(game, aim, s), values[s].toString());
+        }
+    }
+
+    private static void compareTold(String name, Chanceledger game, Oracle oracle) {
+        for (char aim : (AIMS + "mp").toCharArray()) {
+            Fraction[] chain = oracle.chain(aim, oracle.told);
+            for (int s = 0; s < oracle.n; s++) {
+                Check.due(name + " chain " + aim + s, Games.chain(game, aim, s), chain[s].toString());
+            }
+        }
+        for (char aim : AIMS.toCharArray()) {
+            Fraction[] keptByA = oracle.response('a', aim);
+            Fraction[] keptByB = oracle.response('b', aim);
+            for (int s = 0; s < oracle.n; s++) {
+                Check.due(name + " response a" + aim + s, Games.response(game, 'a', aim, s), keptByA[s].toString());
+                Check.due(name + " response b" + aim + s, Games.response(game, 'b', aim, s), keptByB[s].toString());
+            }
+        }
+        for (int s = 0; s < oracle.n; s++) {
+            int closed = Oracle.lowest(oracle.closedSet(oracle.told, s));
+            int state = s;
+            dueOrNone(name + " closedOf " + s, closed, () -> game.closedOf(state));
+            compareTrace(name + " trace " + s, game, oracle.trace(s), s);
+        }
+    }
+
+    private static void compareTrace(String name, Chanceledger game, Oracle.Trace trace, int state) {
+        int length = trace.states.size();
+        dueOrNone(name, length == 0 ? -1 : length, () -> game.traceLength(state));
+        for (int i = -1; i <= length; i++) {
+            int index = i;
+            int due = i < 0 || i == length ? -1 : trace.states.get(i);
+            dueOrNone(name + " at " + i, due, () -> game.traceAt(state, index));
+        }
+        if (length > 0) {
+            String weight = game.traceAbove(state) + "/" + game.traceBelow(state);
+            Check.due(name + " weight", weight, trace.weight.toString());
+        }
+    }
+
+    private static void dueOrNone(String name, int due, Check.Call call) {
+        if (due < 0) {
+            Check.thrown(name, java.util.NoSuchElementException.class, call);
+        } else {
+            Check.due(name, call.run(), due);
+        }
+    }
+
+    private static void compareSets(String name, Chanceledger game, Oracle oracle) {
+        int[] classes = oracle.classes();
+        int number = 0;
+        for (int s = 0; s < oracle.n; s++) {
+            int state = s;
+            dueOrNone(name + " endOf " + s, oracle.endOf(s), () -> game.endOf(state));
+            Check.due(name + " classOf " + s, game.classOf(s), classes[s]);
+            number += classes[s] == s ? 1 : 0;
+        }
+        Check.due(name + " classes", game.classes(), number);
+    }
+}
