@@ -463,17 +463,14 @@ public final class Chanceledger {
         return down == 0 ? 0f : (float) up / (float) down;
     }
 
-    /** All steps but the quotient are exact in doubles; the quotient may be off by one. */
+    /**
+     * In doubles all steps but the quotient are exact, and a float has too few bits for the quotient
+     * to come so near below a whole number that it is rounded to it.
+     */
     private static float restOf(float value) {
         double wide = (double) value;
         long times = (long) (wide / 0.75);
-        double rest = wide - (double) times * 0.75;
-        if (rest < 0.0) {
-            rest = rest + 0.75;
-        } else if (rest >= 0.75) {
-            rest = rest - 0.75;
-        }
-        return (float) rest;
+        return (float) (wide - (double) times * 0.75);
     }
 
     private static long nearestOf(long up, long down) {
@@ -533,20 +530,16 @@ public final class Chanceledger {
 
         boolean isReady() {
             for (int s = 0; s < count; s++) {
-                if (!hasWeights(s)) {
+                if (choiceCount[s] == 0) {
                     return false;
+                }
+                for (int c = 0; c < choiceCount[s]; c++) {
+                    if (weightSum[moveOf(s, c)] == 0) {
+                        return false;
+                    }
                 }
             }
             return count > 0;
-        }
-
-        boolean hasWeights(int state) {
-            for (int c = 0; c < choiceCount[state]; c++) {
-                if (weightSum[moveOf(state, c)] == 0) {
-                    return false;
-                }
-            }
-            return choiceCount[state] > 0;
         }
 
         int costOf(int move, char aim) {
@@ -875,6 +868,7 @@ public final class Chanceledger {
 
         void findMeans(int[] pick) {
             findClosed(pick);
+            chain.arrange();
             solveReturns(pick, true);
             for (int s = 0; s < game.count; s++) {
                 costs[s] = chain.equations.answer[s];
@@ -895,7 +889,6 @@ public final class Chanceledger {
 
         /** Solves for the expected cost, or number of steps, until the return of a closed set. */
         void solveReturns(int[] pick, boolean isByCost) {
-            chain.arrange();
             for (int s = 0; s < game.count; s++) {
                 if (closed[s] == 0 || isReturn(s)) {
                     chain.equations.fix(s, 0);
@@ -927,7 +920,6 @@ public final class Chanceledger {
                     common *= lowestBelow(common, means.down[s]);
                 }
             }
-            chain.arrange();
             for (int s = 0; s < game.count; s++) {
                 if (closed[s] == 0) {
                     chain.step(s, Game.moveOf(s, pick[s]), 1, 1);

@@ -96,14 +96,17 @@ public final class OracleTest {
         Check.due(name + " isConsistent", game.isConsistent(), true);
     }
 
+    /** By all strategies first, so that nothing can be left over from the other way. */
     private static void compareValues(String name, Chanceledger game, Oracle oracle, char aim, Fraction[] values) {
+        for (int s = 0; s < oracle.n; s++) {
+            Check.due(name + " by all " + s, Games.byAll(game, aim, s), values[s].toString());
+        }
         for (int s = 0; s < oracle.n; s++) {
             String at = name + " state " + s;
             Fraction value = values[s];
             long above = value.up.longValueExact();
             long below = value.down.longValueExact();
             Check.due(at + " value", Games.value(game, aim, s), value.toString());
-            Check.due(at + " by all", Games.byAll(game, aim, s), value.toString());
             float asFloat = (float) above / (float) below;
             Check.due(at + " float", game.valueFloat(aim, s), asFloat);
             Check.due(at + " rest", game.restFloat(aim, s), asFloat % 0.75f);

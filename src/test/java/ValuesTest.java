@@ -23,9 +23,10 @@ public final class ValuesTest {
         return Games.of("a0 1,0>13 2,0>002", "b1 3,1>0 0,5>233", "a2* 0,0>2", "a3 4,4>3");
     }
 
+    /** By all strategies first: what the other way left solved would be the right values. */
     private static void dueBoth(String what, Chanceledger game, char aim, int state, String want) {
-        Check.due("12, 13 " + what, Games.value(game, aim, state), want);
         Check.due("14, 15 " + what, Games.byAll(game, aim, state), want);
+        Check.due("12, 13 " + what, Games.value(game, aim, state), want);
     }
 
     /** Promises 12 to 15. */
@@ -40,6 +41,12 @@ public final class ValuesTest {
             dueBoth("f" + s, game, 'f', s, first[s]);
             dueBoth("s" + s, game, 's', s, second[s]);
             dueBoth("w" + s, game, 'w', s, both[s]);
+        }
+        for (char aim : "rfsw".toCharArray()) {
+            Chanceledger other = sample();
+            String[] due = aim == 'r' ? reached : aim == 'f' ? first : aim == 's' ? second : both;
+            Check.due("15 alone", other.belowByAll(aim, 1), Long.parseLong(due[1].split("/")[1]));
+            Check.due("14 alone", sample().aboveByAll(aim, 0), Long.parseLong(due[0].split("/")[0]));
         }
         dueBoth("a target alone", Games.of("b0* 0,0>1", "b0 0,0>1"), 'r', 0, "1/1");
     }
