@@ -135,6 +135,8 @@ public final class ComponentsTest {
         Check.due("37 none", Games.of("a0").meanChoices(), 0.0);
         Check.due("37 of three", Games.of("a0 0,0> 0,0>0", "b0", "a1 0,0> 0,0>1 1,1>2").meanChoices(), 5.0 / 3.0);
         Check.due("37 of four", sample().meanChoices(), 1.5);
+        Check.due("37 of seven", Games.of("a0 0,0>", "b0", "a0", "b0 0,0> 0,0> 0,0>", "a0", "a0", "b0 0,0>6").meanChoices(),
+                5.0 / 7.0);
     }
 
     /** Promise 38. */
