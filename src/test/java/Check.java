@@ -29,6 +29,10 @@ final class Check {
         due(what, got, kind);
     }
 
+    static int made() {
+        return made;
+    }
+
     static void end(String name) {
         System.out.println(name + ": " + made + " checks, " + wrong + " wrong");
         if (wrong != 0) {

@@ -2,10 +2,7 @@ import java.util.NoSuchElementException;
 
 /** Promises 29 to 38: components, classes, traces, means and the invariants. */
 public final class ComponentsTest {
-    private static final Class<IllegalStateException> STATE = IllegalStateException.class;
-    private static final Class<IndexOutOfBoundsException> INDEX = IndexOutOfBoundsException.class;
     private static final Class<NoSuchElementException> NONE = NoSuchElementException.class;
-    private static final int[] NO_STATES = {-1, 4, 7, 32, Integer.MAX_VALUE, Integer.MIN_VALUE};
 
     public static void main(String[] args) {
         closedOf();
@@ -15,7 +12,6 @@ public final class ComponentsTest {
         tracesOfSeveral();
         meanChoices();
         isConsistent();
-        wrongInputs();
         Check.end("ComponentsTest");
     }
 
@@ -157,34 +153,5 @@ public final class ComponentsTest {
         Chanceledger like = Games.of("b1 3,4>2345 1,1>6", "b1 1,1>6 3,4>2345", "a0 0,0>3", "a0 0,0>2 0,0>4", "a0 0,0>4",
                 "a0* 1,1>5", "b0 0,9>055");
         Check.due("38 likeness", like.classes() + " " + like.isConsistent(), "4 true");
-    }
-
-    private static void wrongInputs() {
-        Chanceledger whole = sample();
-        Chanceledger part = sample();
-        part.addChoice(0, 0, 0);
-        for (int state : NO_STATES) {
-            wrongState(whole, state);
-            wrongState(part, state);
-        }
-        Check.thrown("29 not whole", STATE, () -> part.closedOf(0));
-        Check.thrown("30 not whole", STATE, () -> part.endOf(0));
-        Check.thrown("31 not whole", STATE, () -> part.classOf(0));
-        Check.thrown("32 not whole", STATE, () -> part.classes());
-        Check.thrown("32 no states", STATE, () -> new Chanceledger().classes());
-        Check.thrown("33 not whole", STATE, () -> part.traceLength(3));
-        Check.thrown("34 not whole", STATE, () -> part.traceAt(3, -1));
-        Check.thrown("35 not whole", STATE, () -> part.traceAbove(3));
-        Check.thrown("36 not whole", STATE, () -> part.traceBelow(3));
-    }
-
-    private static void wrongState(Chanceledger game, int state) {
-        Check.thrown("29 state " + state, INDEX, () -> game.closedOf(state));
-        Check.thrown("30 state " + state, INDEX, () -> game.endOf(state));
-        Check.thrown("31 state " + state, INDEX, () -> game.classOf(state));
-        Check.thrown("33 state " + state, INDEX, () -> game.traceLength(state));
-        Check.thrown("34 state " + state, INDEX, () -> game.traceAt(state, -1));
-        Check.thrown("35 state " + state, INDEX, () -> game.traceAbove(state));
-        Check.thrown("36 state " + state, INDEX, () -> game.traceBelow(state));
     }
 }

@@ -14,7 +14,8 @@ final class Oracle {
     final boolean[] target;
     final List<List<Choice>> choices = new ArrayList<>();
     final int[] told;
-    Fraction discount = Fraction.of(1, 2);
+    int discountAbove = 1;
+    int discountBelow = 2;
     int firstWeight = 1;
     int secondWeight = 1;
 
@@ -63,6 +64,57 @@ final class Oracle {
         }
     }
 
+    /** One that can be changed without this one; the choices are the same. */
+    Oracle copy() {
+        Oracle copy = new Oracle(n);
+        copy.discountAbove = discountAbove;
+        copy.discountBelow = discountBelow;
+        copy.firstWeight = firstWeight;
+        copy.secondWeight = secondWeight;
+        for (int s = 0; s < n; s++) {
+            copy.player[s] = player[s];
+            copy.colour[s] = colour[s];
+            copy.target[s] = target[s];
+            copy.told[s] = told[s];
+            copy.choices.get(s).addAll(choices.get(s));
+        }
+        return copy;
+    }
+
+    /** A new object that holds the same. */
+    Chanceledger game() {
+        Chanceledger game = new Chanceledger();
+        for (int s = 0; s < n; s++) {
+            game.addState(player[s], colour[s]);
+        }
+        for (int s = 0; s < n; s++) {
+            for (Choice c : choices.get(s)) {
+                int number = game.addChoice(s, c.first, c.second);
+                for (int t = 0; t < n; t++) {
+                    if (c.weight[t] > 0) {
+                        game.addWeight(s, number, t, c.weight[t]);
+                    }
+                }
+            }
+        }
+        layOver(game);
+        return game;
+    }
+
+    /** Gives a game with the same choices this one's targets, told choices, discount and weights. */
+    void layOver(Chanceledger game) {
+        for (int s = 0; s < n; s++) {
+            game.setTarget(s, target[s]);
+            game.tell(s, told[s]);
+        }
+        game.setDiscount(discountAbove, discountBelow);
+        game.setWeights(firstWeight, secondWeight);
+    }
+
+    private Fraction discount() {
+        return Fraction.of(discountAbove, discountBelow);
+    }
+
     Choice choice(int state, int choice) {
         return choices.get(state).get(choice);
     }
@@ -99,7 +151,7 @@ final class Oracle {
         for (int s = 0; s < n; s++) {
             Choice c = choice(s, pick[s]);
             for (int t = 0; t < n; t++) {
-                grid[s][t] = (s == t ? Fraction.ONE : Fraction.ZERO).minus(discount.times(c.chance(t)));
+                grid[s][t] = (s == t ? Fraction.ONE : Fraction.ZERO).minus(discount().times(c.chance(t)));
             }
             grid[s][n] = cost(aim, c);
         }
@@ -339,7 +391,7 @@ final class Oracle {
         for (int t = 0; t < n; t++) {
             next = next.plus(choice.chance(t).times(value[t]));
         }
-        return value[state].equals(aim == 'r' ? next : cost(aim, choice).plus(discount.times(next)));
+        return value[state].equals(aim == 'r' ? next : cost(aim, choice).plus(discount().times(next)));
     }
 
     /** A rank of 100 stands for none. */

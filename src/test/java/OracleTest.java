@@ -22,30 +22,46 @@ public final class OracleTest {
         Check.end("OracleTest");
     }
 
+    /** Each part has an object of its own, so that none is called more often than the document allows. */
     private static void playGame(String name) {
-        int n = 1 + below(7);
-        Oracle oracle = new Oracle(n);
-        Chanceledger game = new Chanceledger();
-        addStates(game, oracle, 1 + below(4));
-        addChoices(game, oracle);
-        compareAll(name, game, oracle);
-        change(game, oracle);
-        compareAll(name + " changed", game, oracle);
+        Oracle oracle = made();
+        Oracle changed = changed(oracle);
+        for (int i = 0; i < AIMS.length(); i++) {
+            char aim = AIMS.charAt(i);
+            Fraction[] before = oracle.values(aim);
+            Fraction[] after = changed.values(aim);
+            Chanceledger game = oracle.game();
+            compareValues(name + " " + aim, game, oracle, aim, before);
+            changed.layOver(game);
+            compareValues(name + " changed " + aim, game, changed, aim, after);
+            solve(name + " solve " + aim, oracle.game(), oracle, aim, before);
+            compareTold(name + " solved " + aim, oracle.game(), oracle);
+            solve(name + " changed solve " + aim, changed.game(), changed, aim, after);
+            compareTold(name + " changed solved " + aim, changed.game(), changed);
+        }
+        Chanceledger game = oracle.game();
+        compareSets(name, game, oracle);
+        changed.layOver(game);
+        compareSets(name + " changed", game, changed);
+        told(oracle);
+        compareTold(name + " told", oracle.game(), oracle);
     }
 
-    private static void addStates(Chanceledger game, Oracle oracle, int colours) {
+    private static Oracle made() {
+        Oracle oracle = new Oracle(1 + below(7));
+        int colours = 1 + below(4);
         int kind = below(5);
         for (int s = 0; s < oracle.n; s++) {
             oracle.player[s] = kind == 0 ? 'a' : kind == 1 ? 'b' : below(2) == 0 ? 'a' : 'b';
             oracle.colour[s] = below(colours);
             oracle.target[s] = below(4) == 0;
-            game.addState(oracle.player[s], oracle.colour[s]);
-            game.setTarget(s, oracle.target[s]);
         }
+        makeChoices(oracle);
+        return oracle;
     }
 
     /** Few costs and few next states make ties, which are where strategies are told apart. */
-    private static void addChoices(Chanceledger game, Oracle oracle) {
+    private static void makeChoices(Oracle oracle) {
         int costs = below(2) == 0 ? 2 : 10;
         int weights = below(3) == 0 ? 1 : 1 + below(6);
         int most = oracle.n > 5 ? 2 : 3;
@@ -53,47 +69,32 @@ public final class OracleTest {
             int choices = 1 + below(most);
             for (int c = 0; c < choices; c++) {
                 int[] weight = new int[oracle.n];
-                Oracle.Choice made = new Oracle.Choice(below(costs), below(costs), weight);
-                game.addChoice(s, made.first, made.second);
+                oracle.choices.get(s).add(new Oracle.Choice(below(costs), below(costs), weight));
                 int sum = 1 + below(weights);
                 for (int i = 0; i < sum; i++) {
-                    int to = below(oracle.n);
-                    weight[to]++;
-                    game.addWeight(s, c, to, 1);
+                    weight[below(oracle.n)]++;
                 }
-                oracle.choices.get(s).add(made);
             }
         }
     }
 
-    private static void change(Chanceledger game, Oracle oracle) {
+    private static Oracle changed(Oracle oracle) {
+        Oracle changed = oracle.copy();
         int below = 2 + below(2);
-        int above = 1 + below(below - 1);
-        oracle.discount = Fraction.of(above, below);
-        game.setDiscount(above, below);
-        oracle.firstWeight = below(4);
-        oracle.secondWeight = below(4);
-        game.setWeights(oracle.firstWeight, oracle.secondWeight);
+        changed.discountAbove = 1 + below(below - 1);
+        changed.discountBelow = below;
+        changed.firstWeight = below(4);
+        changed.secondWeight = below(4);
         int s = below(oracle.n);
-        oracle.target[s] = !oracle.target[s];
-        game.setTarget(s, oracle.target[s]);
-        for (s = 0; s < oracle.n; s++) {
-            oracle.told[s] = below(oracle.choices.get(s).size());
-            game.tell(s, oracle.told[s]);
-        }
+        changed.target[s] = !changed.target[s];
+        told(changed);
+        return changed;
     }
 
-    private static void compareAll(String name, Chanceledger game, Oracle oracle) {
-        compareTold(name, game, oracle);
-        for (int i = 0; i < AIMS.length(); i++) {
-            char aim = AIMS.charAt(i);
-            Fraction[] values = oracle.values(aim);
-            compareValues(name + " " + aim, game, oracle, aim, values);
-            solve(name + " solve " + aim, game, oracle, aim, values);
-            compareTold(name + " solved " + aim, game, oracle);
+    private static void told(Oracle oracle) {
+        for (int s = 0; s < oracle.n; s++) {
+            oracle.told[s] = below(oracle.choices.get(s).size());
         }
-        compareSets(name, game, oracle);
-        Check.due(name + " isConsistent", game.isConsistent(), true);
     }
 
     /** By all strategies first, so that nothing can be left over from the other way. */
@@ -189,5 +190,6 @@ public final class OracleTest {
             number += classes[s] == s ? 1 : 0;
         }
         Check.due(name + " classes", game.classes(), number);
+        Check.due(name + " isConsistent", game.isConsistent(), true);
     }
 }

@@ -1,7 +1,5 @@
 /** Promises 22 to 28: told strategies, their chains and the answers to them. */
 public final class StrategiesTest {
-    private static final Class<IllegalArgumentException> ARGUMENT = IllegalArgumentException.class;
-    private static final Class<IllegalStateException> STATE = IllegalStateException.class;
     private static final Class<IndexOutOfBoundsException> INDEX = IndexOutOfBoundsException.class;
     private static final int[] NO_STATES = {-1, 4, 7, Integer.MAX_VALUE, Integer.MIN_VALUE};
 
@@ -12,7 +10,6 @@ public final class StrategiesTest {
         chainOfAims();
         chainInTheLongRun();
         responses();
-        wrongInputs();
         Check.end("StrategiesTest");
     }
 
@@ -20,52 +17,44 @@ public final class StrategiesTest {
         return Games.of("a0 1,0>13 2,0>002", "b1 3,1>0 0,5>233", "a2* 0,0>2", "a3 4,4>3");
     }
 
-    private static String told(Chanceledger game) {
-        StringBuilder text = new StringBuilder();
-        for (int s = 0; s < game.states(); s++) {
-            text.append(game.told(s));
-        }
-        return text.toString();
-    }
-
     /** Promise 22. */
     private static void solve() {
         Chanceledger game = sample();
-        Check.due("22 r", game.solve('r') + " " + told(game), "2 1100");
-        Check.due("22 r again", game.solve('r') + " " + told(game), "0 1100");
-        Check.due("22 f", game.solve('f') + " " + told(game), "1 0100");
-        Check.due("22 s", game.solve('s') + " " + told(game), "1 0000");
-        Check.due("22 w", game.solve('w') + " " + told(game), "0 0000");
+        Check.due("22 r", game.solve('r') + " " + Games.told(game), "2 1100");
+        Check.due("22 r again", game.solve('r') + " " + Games.told(game), "0 1100");
+        Check.due("22 f", game.solve('f') + " " + Games.told(game), "1 0100");
+        Check.due("22 s", game.solve('s') + " " + Games.told(game), "1 0000");
+        Check.due("22 w", game.solve('w') + " " + Games.told(game), "0 0000");
         Chanceledger even = Games.of("a0 0,0>0 1,0>0 1,0>0", "b0 1,0>1 0,1>1 0,2>1");
-        Check.due("22 lowest good ones", even.solve('f') + " " + told(even), "2 11");
-        Check.due("22 all are good", even.solve('r') + " " + told(even), "2 00");
+        Check.due("22 lowest good ones", even.solve('f') + " " + Games.told(even), "2 11");
+        Check.due("22 all are good", even.solve('r') + " " + Games.told(even), "2 00");
         Chanceledger target = Games.of("a0* 0,0>1 0,0>0", "a0 0,0>1");
         target.tell(0, 1);
-        Check.due("22 a target's choices are all good", target.solve('r') + " " + told(target), "1 00");
+        Check.due("22 a target's choices are all good", target.solve('r') + " " + Games.told(target), "1 00");
     }
 
     /** Of choices that look as good the one is told that comes nearer to a target. */
     private static void solveByRank() {
         Chanceledger waits = Games.of("a0 0,0>0 0,0>2 0,0>1", "a0 0,0>0 0,0>1 0,0>3", "b0 0,0>1", "a0* 0,0>3");
-        Check.due("22 on, not round", waits.solve('r') + " " + told(waits), "2 2200");
+        Check.due("22 on, not round", waits.solve('r') + " " + Games.told(waits), "2 2200");
         Check.due("22 reaches", Games.chain(waits, 'r', 0), "1/1");
         Chanceledger both = Games.of("a0 0,0>1 0,0>0", "b0 0,0>2 0,0>0", "a0* 0,0>2", "b0 0,0>3");
-        Check.due("22 b may turn back", both.solve('r') + " " + told(both), "1 0100");
+        Check.due("22 b may turn back", both.solve('r') + " " + Games.told(both), "1 0100");
         Check.due("22 b turned back", Games.chain(both, 'r', 0), "0/1");
         Chanceledger ranks = Games.of("b0 0,0>1 0,0>2", "a0 0,0>0 0,0>3", "a0 0,0>1", "a0* 0,0>3");
-        Check.due("22 ranks of b", ranks.solve('r') + " " + told(ranks), "1 0100");
+        Check.due("22 ranks of b", ranks.solve('r') + " " + Games.told(ranks), "1 0100");
         Chanceledger coin = Games.of("a0 0,0>1 0,0>13 0,0>34", "a0 0,0>0 0,0>4", "a0 0,0>2 0,0>0", "a0* 0,0>3",
                 "b0 0,0>4");
-        Check.due("22 a coin", coin.solve('r') + " " + told(coin), "2 10100");
+        Check.due("22 a coin", coin.solve('r') + " " + Games.told(coin), "2 10100");
         Check.due("22 a coin reaches", Games.value(coin, 'r', 2) + " " + Games.chain(coin, 'r', 2), "1/1 1/1");
     }
 
     /** Promises 23 and 24. */
     private static void tell() {
         Chanceledger game = sample();
-        Check.due("24 at first", told(game), "0000");
+        Check.due("24 at first", Games.told(game), "0000");
         Check.due("23 before", game.tell(0, 1), 0);
-        Check.due("24 told", told(game), "1000");
+        Check.due("24 told", Games.told(game), "1000");
         Check.due("23 before, again", game.tell(0, 0) + 10 * game.tell(0, 1), 1);
         Check.due("23 the other one stays", game.told(1), 0);
         for (int state : NO_STATES) {
@@ -76,7 +65,7 @@ public final class StrategiesTest {
             Check.thrown("23 choice " + wrong, INDEX, () -> game.tell(0, wrong));
         }
         Check.thrown("23 choice of another", INDEX, () -> game.tell(2, 1));
-        Check.due("24 nothing changed", told(game), "1000");
+        Check.due("24 nothing changed", Games.told(game), "1000");
         Chanceledger empty = Games.of("a0");
         Check.thrown("23 no choices", INDEX, () -> empty.tell(0, 0));
         Check.due("24 no choices", empty.told(0), 0);
@@ -143,59 +132,11 @@ public final class StrategiesTest {
                 "30/7 36/7");
         Check.due("27, 28 s against b", Games.response(game, 'b', 's', 0), "18/7");
         Check.due("27, 28 w against a", Games.response(game, 'a', 'w', 1), "11/2");
-        Check.due("24 told stays", told(game), "1000");
+        Check.due("24 told stays", Games.told(game), "1000");
         Chanceledger stays = Games.of("b0 0,0>1 0,0>0", "a0 0,0>2 0,0>0", "a0* 0,0>2");
         Check.due("27 b stays", Games.response(stays, 'a', 'r', 0), "0/1");
         Check.due("27 b is kept", Games.response(stays, 'b', 'r', 0), "1/1");
         stays.tell(0, 1);
         Check.due("27 b is kept out", Games.response(stays, 'b', 'r', 0), "0/1");
-    }
-
-    private static void wrongInputs() {
-        Chanceledger whole = sample();
-        Chanceledger part = sample();
-        part.addChoice(0, 0, 0);
-        for (char aim : new char[] {'a', 'b', 'R', 0, 65535, (char) ('r' + 256)}) {
-            wrongAim(whole, aim, 0);
-            wrongAim(part, aim, 9);
-        }
-        for (char aim : new char[] {'m', 'p'}) {
-            Check.thrown("22 aim " + aim, ARGUMENT, () -> whole.solve(aim));
-            Check.thrown("27 aim " + aim, ARGUMENT, () -> whole.responseAbove('a', aim, 0));
-            Check.thrown("28 aim " + aim, ARGUMENT, () -> whole.responseBelow('b', aim, 0));
-            Check.thrown("25 not whole " + aim, STATE, () -> part.chainAbove(aim, 0));
-            Check.thrown("26 not whole " + aim, STATE, () -> part.chainBelow(aim, 0));
-            Check.thrown("25 no state " + aim, INDEX, () -> part.chainAbove(aim, 4));
-            Check.thrown("26 no state " + aim, INDEX, () -> part.chainBelow(aim, -1));
-        }
-        for (char player : new char[] {'c', 'A', 'r', 0, 65535}) {
-            Check.thrown("27 player " + (int) player, ARGUMENT, () -> part.responseAbove(player, 'r', 9));
-            Check.thrown("28 player " + (int) player, ARGUMENT, () -> whole.responseBelow(player, 'r', 0));
-        }
-        for (int state : NO_STATES) {
-            wrongState(whole, state);
-            wrongState(part, state);
-        }
-        Check.thrown("22 not whole", STATE, () -> part.solve('r'));
-        Check.thrown("25 not whole", STATE, () -> part.chainAbove('r', 0));
-        Check.thrown("26 not whole", STATE, () -> part.chainBelow('f', 0));
-        Check.thrown("27 not whole", STATE, () -> part.responseAbove('a', 'r', 0));
-        Check.thrown("28 not whole", STATE, () -> part.responseBelow('b', 'w', 0));
-        Check.thrown("22 no states", STATE, () -> new Chanceledger().solve('f'));
-    }
-
-    private static void wrongAim(Chanceledger game, char aim, int state) {
-        Check.thrown("22 aim " + (int) aim, ARGUMENT, () -> game.solve(aim));
-        Check.thrown("25 aim " + (int) aim, ARGUMENT, () -> game.chainAbove(aim, state));
-        Check.thrown("26 aim " + (int) aim, ARGUMENT, () -> game.chainBelow(aim, state));
-        Check.thrown("27 aim " + (int) aim, ARGUMENT, () -> game.responseAbove('a', aim, state));
-        Check.thrown("28 aim " + (int) aim, ARGUMENT, () -> game.responseBelow('b', aim, state));
-    }
-
-    private static void wrongState(Chanceledger game, int state) {
-        Check.thrown("25 state " + state, INDEX, () -> game.chainAbove('r', state));
-        Check.thrown("26 state " + state, INDEX, () -> game.chainBelow('f', state));
-        Check.thrown("27 state " + state, INDEX, () -> game.responseAbove('a', 's', state));
-        Check.thrown("28 state " + state, INDEX, () -> game.responseBelow('b', 'w', state));
     }
 }

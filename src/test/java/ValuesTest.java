@@ -3,19 +3,17 @@ public final class ValuesTest {
     private static final Class<IllegalArgumentException> ARGUMENT = IllegalArgumentException.class;
     private static final Class<IllegalStateException> STATE = IllegalStateException.class;
     private static final Class<IndexOutOfBoundsException> INDEX = IndexOutOfBoundsException.class;
-    private static final char[] NO_AIMS = {'m', 'p', 'a', 'R', 0, 65535, (char) ('r' + 256)};
-    private static final int[] NO_STATES = {-1, 4, 7, Integer.MAX_VALUE, Integer.MIN_VALUE};
 
     public static void main(String[] args) {
         values();
         valuesChange();
+        valuesBehindSeveral();
         valuesWithLoops();
         greatValues();
         floats();
         rounded();
         bound();
         graphAlone();
-        wrongInputs();
         Check.end("ValuesTest");
     }
 
@@ -71,6 +69,27 @@ public final class ValuesTest {
         dueBoth("a new state", game, 'f', 2, "18/1");
     }
 
+    /** However many changes stand between two answers, what was found before them is not told again. */
+    private static void valuesBehindSeveral() {
+        Chanceledger game = Games.of("a0 3,0>0");
+        dueBoth("before", game, 'w', 0, "6/1");
+        game.setDiscount(2, 3);
+        game.setTarget(0, true);
+        dueBoth("a discount and a target", game, 'w', 0, "9/1");
+        game.setWeights(2, 0);
+        game.setTarget(0, false);
+        dueBoth("weights and a target", game, 'w', 0, "18/1");
+        game.setWeights(1, 0);
+        game.setDiscount(1, 3);
+        game.setTarget(0, true);
+        dueBoth("all three", game, 'r', 0, "1/1");
+        dueBoth("all three", game, 'w', 0, "9/2");
+        game.setDiscount(1, 2);
+        game.setDiscount(1, 3);
+        game.setDiscount(2, 3);
+        dueBoth("there and on", game, 'w', 0, "9/1");
+    }
+
     /** 'b' can stay out for good, and 'a' must go on where to wait looks as good. */
     private static void valuesWithLoops() {
         Chanceledger stays = Games.of("b0 0,0>1 0,0>0", "a0* 0,0>1");
@@ -88,23 +107,16 @@ public final class ValuesTest {
 
     /** The greatest costs, discount and weights, with the greatest numbers below. */
     private static void greatValues() {
-        Chanceledger game = Games.of("a0 9,9>112345", "a0 9,8>233456", "a0 9,9>344560", "b0 9,9>455601",
-                "b0 9,9>566012", "b0 9,9>600123", "b0 9,9>011234");
+        String[] states = {"a0 9,9>112345", "a0 9,8>233456", "a0 9,9>344560", "b0 9,9>455601", "b0 9,9>566012",
+            "b0 9,9>600123", "b0 9,9>011234"};
+        Chanceledger game = Games.of(states);
         game.setDiscount(2, 3);
         game.setWeights(3, 3);
-        Oracle oracle = new Oracle(7);
-        oracle.discount = Fraction.of(2, 3);
+        Oracle oracle = Games.oracle(states);
+        oracle.discountAbove = 2;
+        oracle.discountBelow = 3;
         oracle.firstWeight = 3;
         oracle.secondWeight = 3;
-        for (int s = 0; s < 7; s++) {
-            oracle.player[s] = s < 3 ? 'a' : 'b';
-            int[] weight = new int[7];
-            String to = "112345,233456,344560,455601,566012,600123,011234".substring(7 * s, 7 * s + 6);
-            for (char t : to.toCharArray()) {
-                weight[t - '0']++;
-            }
-            oracle.choices.get(s).add(new Oracle.Choice(9, s == 1 ? 8 : 9, weight));
-        }
         Fraction[] due = oracle.chain('w', new int[7]);
         for (int s = 0; s < 7; s++) {
             dueBoth("great w" + s, game, 'w', s, due[s].toString());
@@ -198,54 +210,5 @@ public final class ValuesTest {
         Check.due("21 a coin is not sure", risk.isOne(0), false);
         Check.due("21 b chooses the coin", risk.isOne(3), false);
         Check.due("20 b can't avoid", risk.isZero(3), false);
-    }
-
-    /** Of several conditions the one that is listed first is told. */
-    private static void wrongInputs() {
-        Chanceledger whole = sample();
-        Chanceledger part = sample();
-        part.addChoice(0, 0, 0);
-        for (char aim : NO_AIMS) {
-            wrongAim(whole, aim, 0);
-            wrongAim(part, aim, 9);
-        }
-        for (int state : NO_STATES) {
-            wrongState(whole, state);
-            wrongState(part, state);
-        }
-        for (char aim : "rfsw".toCharArray()) {
-            Check.thrown("12 not whole", STATE, () -> part.above(aim, 0));
-            Check.thrown("13 not whole", STATE, () -> part.below(aim, 0));
-            Check.thrown("14 not whole", STATE, () -> part.aboveByAll(aim, 0));
-            Check.thrown("15 not whole", STATE, () -> part.belowByAll(aim, 0));
-            Check.thrown("16 not whole", STATE, () -> part.valueFloat(aim, 0));
-            Check.thrown("17 not whole", STATE, () -> part.restFloat(aim, 0));
-            Check.thrown("18 not whole", STATE, () -> part.rounded(aim, 0));
-        }
-        Check.thrown("20 not whole", STATE, () -> part.isZero(0));
-        Check.thrown("21 not whole", STATE, () -> part.isOne(0));
-    }
-
-    private static void wrongAim(Chanceledger game, char aim, int state) {
-        Check.thrown("12 aim " + (int) aim, ARGUMENT, () -> game.above(aim, state));
-        Check.thrown("13 aim " + (int) aim, ARGUMENT, () -> game.below(aim, state));
-        Check.thrown("14 aim " + (int) aim, ARGUMENT, () -> game.aboveByAll(aim, state));
-        Check.thrown("15 aim " + (int) aim, ARGUMENT, () -> game.belowByAll(aim, state));
-        Check.thrown("16 aim " + (int) aim, ARGUMENT, () -> game.valueFloat(aim, state));
-        Check.thrown("17 aim " + (int) aim, ARGUMENT, () -> game.restFloat(aim, state));
-        Check.thrown("18 aim " + (int) aim, ARGUMENT, () -> game.rounded(aim, state));
-    }
-
-    private static void wrongState(Chanceledger game, int state) {
-        Check.thrown("12 state " + state, INDEX, () -> game.above('r', state));
-        Check.thrown("13 state " + state, INDEX, () -> game.below('f', state));
-        Check.thrown("14 state " + state, INDEX, () -> game.aboveByAll('s', state));
-        Check.thrown("15 state " + state, INDEX, () -> game.belowByAll('w', state));
-        Check.thrown("16 state " + state, INDEX, () -> game.valueFloat('r', state));
-        Check.thrown("17 state " + state, INDEX, () -> game.restFloat('r', state));
-        Check.thrown("18 state " + state, INDEX, () -> game.rounded('r', state));
-        Check.thrown("19 state " + state, INDEX, () -> game.bound(state, 1));
-        Check.thrown("20 state " + state, INDEX, () -> game.isZero(state));
-        Check.thrown("21 state " + state, INDEX, () -> game.isOne(state));
     }
 }
