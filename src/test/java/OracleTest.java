@@ -15,16 +15,13 @@ public final class OracleTest {
         int games = args.length > 0 ? Integer.parseInt(args[0]) : 250;
         int begin = args.length > 1 ? Integer.parseInt(args[1]) : 1;
         for (int i = begin; i < begin + games; i++) {
-            seed = i * 7919L;
-            below(2);
-            playGame("game " + i);
+            playGame("game " + i, made(i));
         }
         Check.end("OracleTest");
     }
 
     /** Each part has an object of its own, so that none is called more often than the document allows. */
-    private static void playGame(String name) {
-        Oracle oracle = made();
+    private static void playGame(String name, Oracle oracle) {
         Oracle changed = changed(oracle);
         for (int i = 0; i < AIMS.length(); i++) {
             char aim = AIMS.charAt(i);
@@ -47,7 +44,9 @@ public final class OracleTest {
         compareTold(name + " told", oracle.game(), oracle);
     }
 
-    private static Oracle made() {
+    static Oracle made(int number) {
+        seed = number * 7919L;
+        below(2);
         Oracle oracle = new Oracle(1 + below(7));
         int colours = 1 + below(4);
         int kind = below(5);
